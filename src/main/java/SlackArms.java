@@ -33,6 +33,7 @@ public final class SlackArms {
     private static final int STROKE_BASE = 10;
     private static final int FAULT_BASE = -10;
     private static final int REFUSED_BASE = -20;
+    private static final int MORE_THAN_ANY_ERROR = 1000000;
 
     private static final int KIND = 0;
     private static final int SLACK = 1;
@@ -328,7 +329,7 @@ public final class SlackArms {
         if (!isAhead(n) || !isFirstOrSecond(what)) {
             return BAD;
         }
-        int least = Integer.MAX_VALUE;
+        int least = MORE_THAN_ANY_ERROR;
         int best = 0;
         for (int v = 0; v <= 2 * MOST_STROKE; v++) {
             trial.copyFrom(now);
@@ -579,7 +580,7 @@ public final class SlackArms {
         if (!isArm(a) || !isAhead(n) || !isFirstOrSecond(what)) {
             return BAD;
         }
-        int least = Integer.MAX_VALUE;
+        int least = MORE_THAN_ANY_ERROR;
         int best = 0;
         for (int v = 0; v <= mostOf(setting); v++) {
             trial.copyFrom(now);

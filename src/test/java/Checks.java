@@ -3,7 +3,26 @@ final class Checks {
     private static int asked = 0;
     private static int wrong = 0;
 
+    /** Far more than the longest test takes: a call that doesn't end must fail, not hang. */
+    private static final long MOST_MILLIS = 300_000;
+
+    static {
+        Thread watch = new Thread(Checks::stopIfItDoesNotEnd);
+        watch.setDaemon(true);
+        watch.start();
+    }
+
     private Checks() {}
+
+    private static void stopIfItDoesNotEnd() {
+        try {
+            Thread.sleep(MOST_MILLIS);
+        } catch (InterruptedException e) {
+            return;
+        }
+        System.out.println("a call did not come to an end");
+        Runtime.getRuntime().halt(1);
+    }
 
     static void due(String call, long got, long want) {
         asked++;

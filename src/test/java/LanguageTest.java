@@ -116,8 +116,7 @@ public final class LanguageTest {
         Checks.holds("rule 4: no Exact", !code.contains("Exact"));
         Checks.due("rule 5: no static block", Pattern.compile("static\\s*\\{").matcher(code).results().count(), 0);
         Matcher library = Pattern.compile("\\b(Math|Integer|Long|System|Arrays|String)\\.(\\w+)").matcher(code);
-        Set<String> allowed = Set.of("Math.max", "Math.min", "Math.abs", "Integer.signum", "Integer.bitCount",
-                "Integer.MAX_VALUE");
+        Set<String> allowed = Set.of("Math.max", "Math.min", "Math.abs", "Integer.signum", "Integer.bitCount");
         while (library.find()) {
             Checks.holds("rule 4: of the library: " + library.group(), allowed.contains(library.group()));
         }

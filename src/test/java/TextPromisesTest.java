@@ -168,12 +168,17 @@ public final class TextPromisesTest {
         x.end(4);
         Checks.due("4: what end() took away is not read", x.text(), -14);
         Checks.due("5: the end", x.fault(), 2);
-        Checks.due("4: a full tape of one name", Checks.text(x, "a".repeat(160)), -10);
-        Checks.due("4: a full tape of one number", Checks.text(x, "1".repeat(160)), -10);
-        Checks.due("5: too long", x.fault(), 1);
-        Checks.due("4: a full tape of blanks", Checks.text(x, " ".repeat(160)), 0);
-        Checks.due("4: a full tape, taken", Checks.text(x, " ".repeat(155) + "on 1;"), 1);
-        Checks.due("4: a full tape, without its end", Checks.text(x, " ".repeat(157) + "on1"), -170);
+        fullTape("one name", "a".repeat(160), -10, 2);
+        fullTape("one number", "1".repeat(160), -10, 1);
+        fullTape("blanks", " ".repeat(160), 0, 0);
+        fullTape("a line at its end", " ".repeat(155) + "on 1;", 1, 0);
+        fullTape("a line without its end", " ".repeat(157) + "on1", -170, 2);
+    }
+
+    private static void fullTape(String what, String text, int due, int fault) {
+        SlackArms x = new SlackArms();
+        Checks.due("4: a full tape of " + what, Checks.text(x, text), due);
+        Checks.due("5: a full tape of " + what, x.fault(), fault);
     }
 
     private static void textReplacesAll() {
