@@ -31,7 +31,7 @@ public final class EdgeSheetTest {
 
     private static void keep() {
         Run.bounds(34, TWO, "keep(#)", 0, 0, 1, 0);
-        Run.bounds(34, TWO + "keep(0)\nkeep(1)", "keep(#)", 0, 1, 1, 1);
+        Run.bounds(34, TWO + "keep(0)\nsteps(1)\nkeep(1)\nsteps(1)", "keep(#)", 0, 1, 1, 1);
         Run.check(34, "each by itself", TWO + """
                 keep(1) 0
                 count(1) 1
@@ -225,14 +225,14 @@ public final class EdgeSheetTest {
                 """);
         Run.check(37, "INDEX", SHEETS + """
                 lay(0,0,5) 1
-                lay(0,1,5) -12
-                lay(0,-1,5) -12
+                lay(0,1,6) -12
+                lay(0,-1,6) -12
                 lay(2,0,5) 1
                 lay(2,39,5) 1
-                lay(2,40,5) -12
-                lay(2,-1,5) -12
-                lay(2,MIN,5) -12
-                lay(2,MAX,5) -12
+                lay(2,40,6) -12
+                lay(2,-1,6) -12
+                lay(2,MIN,6) -12
+                lay(2,MAX,6) -12
                 """);
         Run.check(37, "INDEX: a row without cells", """
                 sheet(0,0,0)
