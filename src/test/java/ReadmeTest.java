@@ -70,8 +70,8 @@ public final class ReadmeTest {
                 "src/main/java/SlackArms.java", file.toString());
         run("java", "-cp", build.toString(), "Shown");
         for (Method m : SlackArms.class.getDeclaredMethods()) {
-            boolean asked = called.contains(m.getName()) || m.getName().equals("feed");
-            Checks.holds("README.md shows " + m.getName(), asked || !Modifier.isPublic(m.getModifiers()));
+            boolean isFace = Modifier.isPublic(m.getModifiers());
+            Checks.holds("README.md shows " + m.getName(), !isFace || called.contains(m.getName()));
         }
     }
 
